@@ -1317,7 +1317,7 @@ public final class SeaCloth {
         private static final int MOST_PULL = 99;
 
         private final int[] code = new int[RULE_SIGNS];
-        private int size;
+        private int size = 0;
         private final int[] waiting = new int[RULE_SIGNS];
         private int waits;
         private final boolean[] compared = new boolean[MOST_OPEN + 1];
@@ -1327,10 +1327,7 @@ public final class SeaCloth {
         private final int[] values = new int[RULE_SIGNS];
 
         Rule() {
-            code[0] = SIGN + 'c';
-            code[1] = SIGN + 'i';
-            code[2] = SIGN + '-';
-            size = 3;
+            putPlainRule();
         }
 
         void become(Rule other) {
@@ -1665,7 +1662,7 @@ public final class SeaCloth {
             mark(marks, all);
             int fewest = Integer.bitCount(all);
             int set = all;
-            while (set > 0) {
+            for (int turn = 0; turn < ALL_SETS && set != 0; turn++) {
                 if (isIn(marks, set)) {
                     fewest = Math.min(fewest, Integer.bitCount(set));
                     markTakings(set);
