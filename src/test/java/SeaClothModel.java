@@ -46,10 +46,14 @@ public final class SeaClothModel {
   }
 
   private boolean run(int calls) {
+    boolean calm = random.nextBoolean();
     for (int n = 0; n < calls; n++) {
       String name = CALLS[random.nextInt(CALLS.length)];
       if (name.equals("forget") && random.nextInt(3) > 0) {
         name = "told";
+      }
+      if (calm && n > 20 && (name.equals("cloth") || name.equals("again"))) {
+        name = "flips";
       }
       if (!tellTextFor(name)) {
         return false;

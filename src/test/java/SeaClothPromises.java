@@ -275,9 +275,9 @@ public final class SeaClothPromises {
       pull(traits.substring(n, n + 1), 1, 1, ofEnd1[n]);
     }
     String[] texts = {"", "7/2", "-7/2", "7/-2", "7/0", "0/0", "2+3*4", "2-3-4", "8/2/2", "8/2*3", "7/2*2", "1<2", "2<1",
-      "2<2", "2>1", "1>2", "1+1=2", "1=2", "---3", "3--2", "-2*3", "2*-3", "-(2+1)*2", "(1<2)<3", "1-(1<2)", "007",
+      "2<2", "2>1", "1>2", "2>2", "1+1=2", "1=2", "---3", "3--2", "-2*3", "2*-3", "-(2+1)*2", "(1<2)<3", "1-(1<2)", "007",
       "99", "100", "-99", "-100", "999", "2*(3+(4-(5*(1))))", "1+2<2*2", "-1<0", "3-2=1"};
-    int[] pulls = {-1, 3, -3, -3, 0, 0, 14, -5, 2, 12, 6, 1, 0, 0, 1, 0, 1, 0, -3, 5, -6, -6, -6, 1, 0, 7,
+    int[] pulls = {-1, 3, -3, -3, 0, 0, 14, -5, 2, 12, 6, 1, 0, 0, 1, 0, 0, 1, 0, -3, 5, -6, -6, -6, 1, 0, 7,
       99, 99, -99, -99, 99, 4, 1, 1, 1};
     for (int n = 0; n < texts.length; n++) {
       pull(texts[n], 0, 2, pulls[n]);
@@ -467,6 +467,15 @@ public final class SeaClothPromises {
       due("undo", x.undo(), left);
     }
     due("the latest ones", x.count(2), 1);
+    cloth("6....................................");
+    for (int n = 0; n < 18; n++) {
+      x.flips(n / 6, n % 6);
+    }
+    for (int left = 14; left >= 0; left--) {
+      due("undo", x.undo(), left);
+      due("cells then", x.count(3), left + 3);
+    }
+    isCloth("6###.................................");
     x.flips(0, 0);
     cloth("9");
     x.again(0);
@@ -819,6 +828,14 @@ public final class SeaClothPromises {
     x.told(0, 0);
     due("by its cells", x.asks(), 11);
     row(2);
+    start(38, "6############.######.####");
+    x.told(0, 0);
+    due("over in six", x.asks(), 16);
+    row(2);
+    start(38, "6#.#.#.#.#.#.#.#..##.#..#");
+    x.told(0, 0);
+    due("five changes", x.asks(), 25);
+    row(2);
   }
 
   // ---- odds, laws, rests, years
@@ -856,6 +873,11 @@ public final class SeaClothPromises {
     rule("k");
     due("each its own way", law("0-k"), 2);
     row(3, 4);
+
+    start(40, "6######");
+    rule("0");
+    due("ten nights and no more", law("k*(n=3)"), 1);
+    row(6, 7);
 
     promise = 41;
     due("rests(0)", x.rests(0), 82);
