@@ -1599,7 +1599,7 @@ public final class SeaCloth {
         static int reached(int from, int set, int[] steps) {
             int seen = from;
             int fresh = from;
-            for (int turn = 0; turn < THREADS && fresh != 0; turn++) {
+            for (int turn = 0; turn < THREADS && fresh != 0 && seen != set; turn++) {
                 int one = fresh & -fresh;
                 int t = Integer.bitCount(one - 1);
                 int found = t < steps.length ? steps[t] & set & ~seen : 0;
