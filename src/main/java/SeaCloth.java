@@ -1310,7 +1310,8 @@ public final class SeaCloth {
     private static final class Rule {
         // Codes below this are numbers, the others signs.
         private static final int SIGN = 1000;
-        private static final int NEGATE = SIGN + '~';
+        // Behind the codes of all signs that a text can have (0 to 255), so that none is taken for it.
+        private static final int NEGATE = SIGN + 256;
         private static final int OPEN = SIGN + '(';
         private static final int MOST_OPEN = 4;
         private static final int MOST_DIGITS = 3;

@@ -201,8 +201,9 @@ public final class SeaClothModel {
 
   private String spoiled(String text) {
     int p = random.nextInt(text.length() + 1);
-    switch (random.nextInt(4)) {
+    switch (random.nextInt(5)) {
       case 0: return text.substring(0, p);
+      case 4: return text.substring(0, p) + (char) random.nextInt(256) + text.substring(p);
       case 1: return text.substring(0, p) + "#.0179 ncwx(\u00e9".charAt(random.nextInt(13)) + text.substring(p);
       case 2: return text + text;
       default: return p < text.length() ? text.substring(0, p) + text.substring(p + 1) : text;

@@ -18,6 +18,7 @@ public final class SeaClothPromises {
     keptAndCounted();
     textIsEmptied();
     refusalsChangeNothing();
+    everySign();
     System.out.println(checks + " checks, " + wrong + " wrong");
     if (wrong != 0) {
       System.exit(1);
@@ -1013,5 +1014,59 @@ public final class SeaClothPromises {
     due("count(7)", x.count(7), 5);
     due("count(5)", x.count(5), 1);
     due("count(2)", x.count(2), 1);
+  }
+
+  // ---- every sign of a text
+
+  /** Behind each beginning of a text just the named signs can stand, of all that there are. */
+  private static void everySign() {
+    String things = "kioclesn0123456789(-";
+    String joins = "+-*/<>=";
+    String digits = "0123456789";
+    promise = 5;
+    String[][] rules = {{"", things}, {"0", joins + digits}, {"07", joins + digits}, {"007", joins}, {"n", joins},
+      {"-", things}, {"--", things}, {"(", things}, {"((((", things.replace("(", "")}, {"(1", joins + digits + ")"},
+      {"(k", joins + ")"}, {"(999", joins + ")"}, {"(1)", joins}, {"((1)", joins + ")"}, {"1+", things}, {"1*-", things},
+      {"i<", things}, {"i<1", "+-*/" + digits}, {"i=o", "+-*/"}, {"i>(o", joins + ")"}, {"i>(o=1)", "+-*/"},
+      {"(i<1", "+-*/)" + digits}, {"(i<1)", joins}};
+    for (String[] one : rules) {
+      behindOf("rule", one[0], one[1]);
+      behindOf("law", one[0], one[1]);
+    }
+    promise = 4;
+    String[][] cloths = {{"", "123456"}, {"1", "#."}, {"3#.", "#."}, {"2#..#", "#."}, {"1######", ""}, {"2............", ""}};
+    for (String[] one : cloths) {
+      behindOf("cloth", one[0], one[1]);
+      behindOf("rags", one[0], one[1]);
+      behindOf("differs", one[0], one[1]);
+    }
+    promise = 14;
+    String[][] works = {{"", "nwdtm"}, {"n", digits}, {"n0", "nwdtm"}, {"w", "01"}, {"w1", digits}, {"w10", digits},
+      {"w100", digits}, {"w1003", "nwdtm"}, {"d", "01"}, {"d0", digits}, {"d00", "nwdtm"}, {"t", digits}, {"t0", digits},
+      {"t00", "nwdtm"}, {"m", "01"}, {"m1", "nwdtm"}};
+    for (String[] one : works) {
+      behindOf("work", one[0], one[1]);
+    }
+  }
+
+  private static void behindOf(String call, String beginning, String signs) {
+    for (int sign = 0; sign < 256; sign++) {
+      x = new SeaCloth();
+      text(beginning + (char) sign);
+      int answer = answerOf(call);
+      boolean stands = answer != (call.equals("law") ? -10000 : -1) - beginning.length();
+      due(call + " by " + beginning + " and the sign " + sign + " can stand", stands, signs.indexOf(sign) >= 0);
+    }
+  }
+
+  private static int answerOf(String call) {
+    switch (call) {
+      case "rule": return x.rule();
+      case "law": return x.law();
+      case "cloth": return x.cloth();
+      case "rags": return x.rags();
+      case "differs": return x.differs();
+      default: return x.work();
+    }
   }
 }
