@@ -23,10 +23,16 @@ public final class SeaClothModel {
     "looks", "repeats", "runs", "twins", "game", "told", "forget", "fits", "asks", "odds", "law",
     "rests", "years", "keep", "again", "count", "row", "sign", "end"};
 
+  /** Of what is asked again and again of one cloth that hangs together. */
+  private static final String[] HOLDS = {
+    "hangs", "spares", "mends", "endures", "endures", "game", "game", "odds", "falls", "sheds", "lefts", "rags", "years",
+    "flips", "undo"};
+
   private final Random random;
   private final SeaCloth real = new SeaCloth();
   private final Model model = new Model();
   private final List<String> history = new ArrayList<>();
+  private boolean holding = false;
 
   private SeaClothModel(long seed) {
     random = new Random(seed);
@@ -47,6 +53,7 @@ public final class SeaClothModel {
 
   private boolean run(int calls) {
     boolean calm = random.nextBoolean();
+    holding = random.nextInt(5) == 0;
     for (int n = 0; n < calls; n++) {
       String name = CALLS[random.nextInt(CALLS.length)];
       if (name.equals("forget") && random.nextInt(3) > 0) {
@@ -54,6 +61,9 @@ public final class SeaClothModel {
       }
       if (calm && n > 20 && (name.equals("cloth") || name.equals("again"))) {
         name = "flips";
+      }
+      if (holding) {
+        name = n % 20 == 0 ? "cloth" : HOLDS[random.nextInt(HOLDS.length)];
       }
       if (!tellTextFor(name)) {
         return false;
@@ -68,7 +78,7 @@ public final class SeaClothModel {
   private boolean tellTextFor(String name) {
     String text;
     switch (name) {
-      case "cloth": text = clothText(1 + random.nextInt(6), 1 + random.nextInt(6)); break;
+      case "cloth": text = holding ? hangingText() : clothText(1 + random.nextInt(6), 1 + random.nextInt(6)); break;
       case "rags": text = ragText(); break;
       case "differs":
         text = random.nextInt(4) == 0 ? clothText(1 + random.nextInt(6), 1 + random.nextInt(6))
@@ -107,6 +117,15 @@ public final class SeaClothModel {
       s.append(random.nextInt(4) < often ? '#' : '.');
     }
     return s.toString();
+  }
+
+  /** Mostly a cloth that hangs together. */
+  private String hangingText() {
+    String text = clothText(2 + random.nextInt(5), 2 + random.nextInt(5));
+    for (int n = 0; n < 60 && !Model.hangsTogether(text); n++) {
+      text = clothText(2 + random.nextInt(5), 2 + random.nextInt(5));
+    }
+    return text;
   }
 
   private String ragText() {
@@ -936,6 +955,11 @@ final class Model {
     int[] to = closure(c, set);
     for (int a : set) if (to[a] != all) return false;
     return true;
+  }
+
+  static boolean hangsTogether(String text) {
+    List<String> c = clothOf(text);
+    return together(c, threads(c));
   }
 
   private static List<String> left(List<String> c, int taken) {
