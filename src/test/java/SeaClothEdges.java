@@ -1,4 +1,6 @@
+import java.util.HashSet;
 import java.util.NoSuchElementException;
+import java.util.Set;
 
 /**
  * Each sentence of the document that names a boundary: the last value that is taken and the first
@@ -24,6 +26,7 @@ public final class SeaClothEdges {
 
   public static void main(String[] args) {
     newObject();
+    manyCalls();
     signs();
     ends();
     clothTaken();
@@ -127,6 +130,7 @@ public final class SeaClothEdges {
       s.append(number).append(' ');
     }
     same("the ROW", rowOf(x), s.toString());
+    due("count(6)", x.count(6), want.length);
   }
 
   private static void looks(String want) {
@@ -186,13 +190,20 @@ public final class SeaClothEdges {
     return s.toString();
   }
 
+  /** THE CLOTH by its PICKS; its ENDS are looked at, too. */
   private static String clothOf(SeaCloth y) {
     StringBuilder s = new StringBuilder().append(y.count(1));
+    int[] ends = new int[y.count(1)];
     for (int p = 0; p < y.count(0); p++) {
       int cells = y.thread(0, p, 0);
-      for (int e = 0; e < y.count(1); e++) {
+      for (int e = 0; e < ends.length; e++) {
         s.append((cells >>> e & 1) != 0 ? '#' : '.');
+        ends[e] |= (cells >>> e & 1 ^ 1) << p;
       }
+      s.append(cells >>> ends.length != 0 ? " with more cells than ends" : "");
+    }
+    for (int e = 0; e < ends.length; e++) {
+      s.append(y.thread(1, e, 0) != ends[e] ? " but for end " + e : "");
     }
     return s.toString();
   }
@@ -323,6 +334,21 @@ public final class SeaClothEdges {
     }
     says(1, "NONE = -1");
     due("NONE", SeaCloth.NONE, -1);
+  }
+
+  private static void manyCalls() {
+    says(1, "An object is used for at most 512 calls after it has been made (the last of these)");
+    fresh("1#");
+    SeaCloth y = new SeaCloth();
+    for (int n = 1; n < 512; n++) {
+      due("flips(0, 0) as call " + n, y.flips(0, 0), (n + 1) % 2);
+    }
+    due("count(5) as call 512", y.count(5), 15);
+    y = new SeaCloth();
+    for (int n = 1; n < 512; n++) {
+      due("nights(60) as call " + n, y.nights(60), 2);
+    }
+    due("count(2) as call 512", y.count(2), 511 * 60);
   }
 
   private static void signs() {
@@ -760,6 +786,12 @@ public final class SeaClothEdges {
       due("sheet(" + kind + ", 3, 1, MAX)", x.sheet(kind, 3, 1, GREATEST), 1 + 0 + 7);
       due("sheet(" + kind + ", 2, 260, 260)", x.sheet(kind, 2, 260, 260), 4 + 0);
     }
+    begin("4........");
+    due("more ends than picks", x.sheet(1, 2, 31, -5), 15 + 10);
+    looks("4####.#.#");
+    begin("1......");
+    due("more picks than ends", x.sheet(0, 6, 2, 3), 0 + 1 + 0 + 1 + 0 + 1);
+    looks("1.#.#.#");
     begin("6" + ".".repeat(36));
     due("all picks", x.sheet(1, 6, 63, -1), 63 + 62 + 61 + 60 + 59 + 58);
     due("all but the last", x.sheet(1, 5, 63, 0), 5 * 63);
@@ -874,6 +906,15 @@ public final class SeaClothEdges {
     rule("k");
     x.nights(1);
     looks("2##");
+    says(9, "the last one of its kind is none of the other kind");
+    fresh("1#.#");
+    rule("i");
+    x.nights(1);
+    looks("1#.");
+    fresh("3#.#");
+    rule("i");
+    x.nights(1);
+    looks("2#.");
     says(9, "of less than 0 the most");
     fresh("2#..#");
     rule("0-99+k*i");
@@ -1058,6 +1099,12 @@ public final class SeaClothEdges {
     due("all are like", x.mirrors(0), 0);
     due("all", x.mirrors(1), 2);
     looks("2.#.#");
+    begin("3....#..#.##...####");
+    due("six picks that differ", x.mirrors(0), 6);
+    looks("3###..###..#..#....");
+    begin("6##.#..");
+    due("six ends", x.mirrors(1), 6);
+    looks("6..#.##");
     begin("1###...");
     due("all six", x.mirrors(0), 6);
     looks("1...###");
@@ -1229,6 +1276,22 @@ public final class SeaClothEdges {
     }
     due("undo()", x.undo(), -1);
     due("cells", x.count(3), 2);
+    says(15, "THE CLOTH is as ahead of it (the largest one)");
+    String largest = "6#.#.#..##..##...#.#..##.###...#.##.#";
+    fresh(largest);
+    x.keep(0);
+    x.mirrors(0);
+    x.mirrors(1);
+    x.draws(0, 5);
+    x.draws(1, 5);
+    for (int left = 3; left >= 0; left--) {
+      due("undo()", x.undo(), left);
+    }
+    looks(largest);
+    x.draws(0, 0);
+    due("again(0)", x.again(0), true);
+    looks(largest);
+    fresh("6" + ".".repeat(36));
     says(15, "NIGHT is as ahead of it");
     for (int n = 0; n < 16; n++) {
       x.nights(3);
@@ -1464,11 +1527,41 @@ public final class SeaClothEdges {
     begin("6#......#......#......#......#......#");
     due("lefts(1)", x.lefts(1), 12);
     row(12);
+    for (String one : new String[] {cloth, FULL, "6" + "#.#.#..##..##...#.#..##.###...#.###..".substring(0, 36)}) {
+      begin(one);
+      for (int n = 0; n <= 4; n++) {
+        int[] due = left(one, n);
+        due("lefts(" + n + ")", x.lefts(n), due[0]);
+        row(due[1]);
+      }
+    }
     says(20, "NONE: another n");
     cloth = "3#.#.#.";
     for (int n : new int[] {-1, 5, LEAST, GREATEST}) {
       refused("lefts(" + n + ")", y -> y.lefts(n), -1);
     }
+  }
+
+  /** How many texts of cloths are left, and by how many sets. */
+  private static int[] left(String text, int n) {
+    int ends = text.charAt(0) - '0';
+    int picks = (text.length() - 1) / ends;
+    Set<String> texts = new HashSet<>();
+    int sets = 0;
+    for (int taken = 0; taken < 1 << picks + ends; taken++) {
+      if (Integer.bitCount(taken) == n) {
+        StringBuilder s = new StringBuilder().append(ends - Integer.bitCount(taken >>> picks));
+        for (int c = 0; c < picks * ends; c++) {
+          boolean stays = ((taken >>> c / ends | taken >>> picks + c % ends) & 1) == 0;
+          s.append(stays ? text.substring(1 + c, 2 + c) : "");
+        }
+        if (s.length() > 1) {
+          texts.add(s.toString());
+          sets++;
+        }
+      }
+    }
+    return new int[] {texts.size(), sets};
   }
 
   // ---- words: promises 21 and 22
@@ -1693,8 +1786,23 @@ public final class SeaClothEdges {
     begin("2....");
     due("mends()", x.mends(), 2);
     row(0, 7);
+    begin("2#.....");
+    due("mends()", x.mends(), 2);
+    row(6, 13);
+    begin("2#..#####");
+    due("the last two picks lie above all", x.mends(), 2);
+    row(12, 18);
+    begin("4#.##.###");
+    due("the last two ends lie below all", x.mends(), 2);
+    row(2, 3);
+    begin("6" + "#.#.#..#.#.#".repeat(2) + "############");
+    due("the last two picks lie above all", x.mends(), 2);
+    row(24, 30);
+    says(27, "0 .. 2: the last cell of all");
+    begin("6" + ".#####".repeat(5) + "######");
+    due("mends()", x.mends(), -2);
     says(27, "-2: by no two");
-    for (String none : new String[] {"1#", "1######", "6......", "3#########", "6" + "#.#.#.".repeat(5) + "......"}) {
+    for (String none : new String[] {"1#", "1######", "6......", "3#########", "2......", "2####..", "6" + "#.#.#.".repeat(5) + "......"}) {
       cloth = none;
       refused("mends()", y -> y.mends(), -2);
     }
@@ -1755,6 +1863,12 @@ public final class SeaClothEdges {
     begin("3......#..");
     due("both", differs("3.#......."), 2);
     row(0, 2, 2);
+    begin("3.........");
+    due("by three wherever it goes", differs("3###......"), 3);
+    row(3, 0, 0);
+    begin("6" + ".".repeat(36));
+    due("all wherever it goes", differs("6" + "#".repeat(36)), 36);
+    row(36, 0, 0);
     says(29, "of as good ones the least row");
     begin("2#..#");
     due("two ways", differs("2.##."), 4);
