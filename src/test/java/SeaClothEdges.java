@@ -1465,6 +1465,16 @@ public final class SeaClothEdges {
     due("one of each", rags("1."), 3);
     row(1 | 0b011 << 6);
     due("count(7)", x.count(7), 0);
+    begin("2#.");
+    due("without the last end", rags("1#"), 1);
+    row(128);
+    due("without the first end", rags("1."), 1);
+    row(64);
+    begin("1#.");
+    due("without the last pick", rags("1#"), 1);
+    row(2);
+    due("without the first pick", rags("1."), 1);
+    row(1);
     begin(FULL);
     due("each of 6 by each of 4", rags("1#"), 24);
     row(31 | 31 << 6);
